@@ -54,7 +54,10 @@ public final class AccountTest {
         return x;
     }
 
-    /** No run of calls makes a market that is not legal, so this looks at some that are at a limit. */
+    /**
+     * No run of calls makes a market that is not legal: each award and exchange is looked at before it is made,
+     * and neither limits nor needs change. So this looks at markets that are at a limit.
+     */
     private static void isLegal() {
         ShiftMarket x = new ShiftMarket();
         x.addWorker(0, 8, 16, 2, 1);

@@ -40,6 +40,8 @@ public final class BestSetTest {
     }
 
     private static void greatestSum() {
+        Check.equal("one point", "1 1", best(market(0, 168, 28, at(0, 0, 4, 1))));
+        Check.equal("one point each", "3 2", best(market(0, 168, 28, at(0, 0, 4, 1), at(1, 0, 4, 1))));
         ShiftMarket x = Check.full();
         for (int shift = 0; shift < 8; shift++) {
             x.setBid(0, 15 - 2 * shift, 9);

@@ -75,6 +75,13 @@ public final class HoldingTest {
         x.revoke(0, 4);
         Check.equal("a day between", 2, x.daysInRow(0));
         Check.equal("another worker's days", 0, x.daysInRow(1));
+        ShiftMarket first = withShifts(at(0, 0, 1), at(1, 0, 1), at(26, 0, 1), at(27, 0, 1));
+        first.award(0, 0);
+        first.award(1, 3);
+        Check.equal("the first day, the last day", "1 1", Check.row(first.daysInRow(0), first.daysInRow(1)));
+        first.award(0, 1);
+        first.award(1, 2);
+        Check.equal("the first days, the last days", "2 2", Check.row(first.daysInRow(0), first.daysInRow(1)));
     }
 
     private static void shortestRest() {

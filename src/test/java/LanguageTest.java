@@ -66,15 +66,13 @@ public final class LanguageTest {
             boolean own = classes.contains(used.group(1)) || EXCEPTIONS.contains(used.group(1));
             Check.equal("the name " + used.group(), true, own || LIBRARY.contains(used.group()));
         }
-        for (char sign : source.toCharArray()) {
-            Check.equal("the sign " + (int) sign, true, sign == '\n' || sign >= 32 && sign < 127);
-        }
+        Check.equal("signs that are none of text", "", source.replaceAll("[\n -~]", ""));
     }
 
     private static void statics(String source) {
         for (String line : source.split("\n")) {
             boolean field = line.contains(" static ") && line.contains(";") && !line.contains("{");
-            Check.equal(line.trim() + " is no variable", true, !field || line.contains("static final "));
+            Check.equal(line.trim() + " is a constant", true, !field || line.contains("static final "));
             Check.equal(line.trim() + " is not too long", true, line.length() <= 120);
         }
     }
