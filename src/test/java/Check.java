@@ -12,6 +12,7 @@ final class Check {
 
     private static int wrong = 0;
     private static int checks = 0;
+    private static String about = "";
 
     private Check() {
     }
@@ -20,8 +21,13 @@ final class Check {
         checks++;
         if (!due.equals(got)) {
             wrong++;
-            System.out.println(what + " answered " + got + ", due is " + due);
+            System.out.println(about + what + " answered " + got + ", due is " + due);
         }
+    }
+
+    /** What stands before each wrong answer that is told from now on. */
+    static void about(String test) {
+        about = test + ": ";
     }
 
     /** Numbers that are answered one after the other, to be compared in one row. */
@@ -34,21 +40,44 @@ final class Check {
     }
 
     /**
-     * Also looks whether the call that throws leaves the state, what can be taken back, and, unless an
-     * obstacle is the reason, the reason.
+     * Also looks whether the call that throws leaves everything as it was: what can be asked for, the text, what
+     * can be taken back, what was saved and, unless an obstacle is the reason, the reason.
      */
     static void refuses(String what, Class<? extends RuntimeException> due, Recipe recipe, Act act) {
         ShiftMarket x = recipe.make();
         ShiftMarket same = recipe.make();
         equal(what, due.getSimpleName(), thrownBy(x, act));
+        equal(what + ": the fault position and the failed item", readingOf(same), readingOf(x));
+        leaves(what, due, same, x);
+    }
+
+    /**
+     * Like refuses, for addItems: that empties the text, and tells anew what was wrong with it. The recipe's text is
+     * empty.
+     */
+    static void refusesItems(String what, Class<? extends RuntimeException> due, Recipe recipe, String text) {
+        ShiftMarket x = recipe.make();
+        append(x, text);
+        equal(what, due.getSimpleName(), thrownBy(x, ShiftMarket::addItems));
+        leaves(what, due, recipe.make(), x);
+    }
+
+    private static void leaves(String what, Class<? extends RuntimeException> due, ShiftMarket same, ShiftMarket x) {
         equal(what + ": the state", stateOf(same), stateOf(x));
         if (due != UNSUPPORTED) {
             equal(what + ": the reason", reasonOf(same), reasonOf(x));
         }
-        for (int count = 0; count < 8; count++) {
-            equal(what + ": undo", thrownBy(same, ShiftMarket::undo), thrownBy(x, ShiftMarket::undo));
-            equal(what + ": the state after undo", stateOf(same), stateOf(x));
+        after(what + ": addItems", same, x, ShiftMarket::addItems);
+        equal(what + ": what addItems tells", readingOf(same), readingOf(x));
+        for (int count = 0; count <= 8; count++) {
+            after(what + ": undo", same, x, ShiftMarket::undo);
         }
+        after(what + ": restore", same, x, ShiftMarket::restore);
+    }
+
+    private static void after(String what, ShiftMarket same, ShiftMarket x, Act act) {
+        equal(what, thrownBy(same, act), thrownBy(x, act));
+        equal(what + ": the state after it", stateOf(same), stateOf(x));
     }
 
     static String thrownBy(ShiftMarket x, Act act) {
@@ -87,6 +116,10 @@ final class Check {
         return row(x.reason(0), x.reason(1), x.reason(2));
     }
 
+    static String readingOf(ShiftMarket x) {
+        return row(x.faultPosition(), x.failedItem());
+    }
+
     static String awardsOf(ShiftMarket x) {
         StringBuilder text = new StringBuilder();
         for (int index = 0; index < x.awardCount(); index++) {
@@ -121,6 +154,41 @@ final class Check {
         for (int shift = 0; shift < 16; shift++) {
             x.addShift(shift, 0, 1, 0, 3);
         }
+        return x;
+    }
+
+    /**
+     * Like free, but with something in each place that a call must leave: bids, awards, a guarantee, a text, a
+     * failed item, a reason, what was saved, and as many changes as can be taken back. Shift 0 is guaranteed to the
+     * workers 0 and 1, worker 1 also holds shift 1.
+     */
+    static ShiftMarket busy() {
+        ShiftMarket x = free();
+        x.setBid(0, 3, 5);
+        x.award(0, 0);
+        x.award(1, 1);
+        x.save();
+        x.award(1, 0);
+        x.setGuarantee(0, 2);
+        append(x, "b0,0,1;b0,9,9");
+        thrownBy(x, ShiftMarket::addItems);
+        thrownBy(x, y -> y.award(2, 0));
+        append(x, "b2,2,7");
+        return x;
+    }
+
+    /** Like full, but with something in each place; worker 4 has 8 bids, and worker 9 alone holds shift 15. */
+    static ShiftMarket crowded() {
+        ShiftMarket x = full();
+        for (int shift = 0; shift < 8; shift++) {
+            x.setBid(4, shift, 1 + shift);
+        }
+        x.save();
+        append(x, "b5,5,5;w1,2");
+        thrownBy(x, ShiftMarket::addItems);
+        x.award(9, 15);
+        thrownBy(x, y -> y.award(9, 15));
+        append(x, "b5,5,5");
         return x;
     }
 

@@ -14,12 +14,12 @@ public final class ObstacleTest {
         Check.end("ObstacleTest");
     }
 
-    private static String of(ShiftMarket x, int worker, int shift) {
+    static String of(ShiftMarket x, int worker, int shift) {
         return Check.row(x.obstacle(worker, shift, 0), x.obstacle(worker, shift, 1));
     }
 
     /** A market with one worker, of all skills, and the shifts, of which all but the last are awarded. */
-    private static ShiftMarket market(int rest, int hours, int days, int[]... shifts) {
+    static ShiftMarket market(int rest, int hours, int days, int[]... shifts) {
         ShiftMarket x = new ShiftMarket();
         x.addWorker(0, rest, hours, days, 15);
         for (int index = 0; index < shifts.length; index++) {
@@ -31,7 +31,7 @@ public final class ObstacleTest {
         return x;
     }
 
-    private static int[] at(int day, int hour, int length) {
+    static int[] at(int day, int hour, int length) {
         return new int[] {day, hour, length};
     }
 

@@ -57,10 +57,7 @@ public final class TextTest {
     }
 
     private static void faultAt(int due, String text) {
-        Check.refuses("addItems of " + text, Check.ARGUMENT, Check::free, y -> {
-            Check.append(y, text);
-            y.addItems();
-        });
+        Check.refusesItems("addItems of " + text, Check.ARGUMENT, Check::free, text);
         ShiftMarket x = Check.free();
         Check.append(x, text);
         Check.equal("addItems of " + text, "IllegalArgumentException", Check.thrownBy(x, ShiftMarket::addItems));
@@ -103,10 +100,7 @@ public final class TextTest {
     }
 
     private static void failsAt(int due, String text) {
-        Check.refuses("addItems of " + text, Check.STATE, Check::free, y -> {
-            Check.append(y, text);
-            y.addItems();
-        });
+        Check.refusesItems("addItems of " + text, Check.STATE, Check::free, text);
         ShiftMarket x = Check.free();
         Check.append(x, text);
         Check.equal("addItems of " + text, "IllegalStateException", Check.thrownBy(x, ShiftMarket::addItems));
