@@ -76,7 +76,8 @@ public final class ModelTest {
                     compare("addWorker", next(4), next(3) * 4, 12 + next(40), 1 + next(6), 15 - next(3) / 2 * next(15));
                 }
                 if (count < shifts) {
-                    compare("addShift", next(3) == 0 ? next(28) : next(9), next(24), 1 + next(12), next(4), 1 + next(3));
+                    compare("addShift", next(3) == 0 ? next(28) : next(9), next(24), 1 + next(12), next(4),
+                            1 + next(3));
                 }
             }
         }
