@@ -13,6 +13,7 @@ import java.util.List;
 public final class FaceTest {
     public static void main(String[] args) throws Exception {
         Check.equal("the face", faceOfDocument(args[0]), faceOfClass());
+        Check.equal("the signatures of the promises", signaturesOfPromises(args[0]), faceOfClass());
         Check.equal("the class is public and final", Modifier.PUBLIC | Modifier.FINAL,
                 ShiftMarket.class.getModifiers());
         for (Field field : ShiftMarket.class.getDeclaredFields()) {
@@ -37,6 +38,27 @@ public final class FaceTest {
         }
         Collections.sort(face);
         return face;
+    }
+
+    /** Each promise has its signature in the first line that is not empty, and bears the name of its method. */
+    private static List<String> signaturesOfPromises(String path) throws Exception {
+        List<String> signatures = new ArrayList<>();
+        String promise = "";
+        for (String line : Files.readAllLines(Path.of(path))) {
+            if (line.startsWith("## ")) {
+                promise = line.startsWith("## Promise ") ? line : "";
+            } else if (!promise.isEmpty() && !line.isEmpty()) {
+                Check.equal(promise + " begins with a signature", true, line.matches("`[^`]*`"));
+                Check.equal(promise + " has a number", true,
+                        promise.startsWith("## Promise " + (signatures.size() + 1) + ": "));
+                Check.equal(promise + " has the name of " + line, true, signatures.isEmpty()
+                        || line.contains(" " + promise.substring(promise.indexOf(": ") + 2) + "("));
+                signatures.add(withoutNames(line.replace("`", "")));
+                promise = "";
+            }
+        }
+        Collections.sort(signatures);
+        return signatures;
     }
 
     private static String withoutNames(String line) {
