@@ -100,33 +100,42 @@ final class AccountSentences {
         }
     }
 
+    /** Four workers whom nothing limits, and two shifts, of which one, the first or the second, has this need. */
+    private static ShiftMarket withNeed(int shift, int need) {
+        ShiftMarket x = Edges.workersAlone();
+        x.addWorker(0, 0, 168, 28, 15);
+        x.addShift(0, 0, 1, 0, shift == 0 ? need : 3);
+        x.addShift(1, 0, 1, 0, shift == 1 ? need : 3);
+        return x;
+    }
+
     static void promise37IsLegalUpToTheNeed() {
         Edges.says("no coverage is above the need or below the guarantee.");
-        for (int need = 1; need <= 3; need++) {
-            ShiftMarket x = Edges.workersAlone();
-            x.addWorker(0, 0, 168, 28, 15);
-            x.addShift(0, 0, 1, 0, 3);
-            x.addShift(1, 0, 1, 0, need);
+        for (int index = 0; index < 6; index++) {
+            int shift = index % 2;
+            int need = 1 + index / 2;
+            ShiftMarket x = withNeed(shift, need);
             for (int coverage = 1; coverage <= 4; coverage++) {
-                force(x, "enterAward", coverage - 1, 1);
-                Check.equal("coverage " + coverage + ", need " + need, coverage <= need, x.isLegal());
+                force(x, "enterAward", coverage - 1, shift);
+                Check.equal("shift " + shift + ", coverage " + coverage + ", need " + need, coverage <= need,
+                        x.isLegal());
             }
         }
     }
 
     static void promise37IsLegalDownToTheGuarantee() {
         Edges.says("no coverage is above the need or below the guarantee.");
-        for (int coverage = 0; coverage <= 3; coverage++) {
-            for (int guarantee = 0; guarantee <= 3; guarantee++) {
-                ShiftMarket x = Edges.workersAlone();
-                x.addShift(0, 0, 1, 0, 3);
-                x.addShift(1, 0, 1, 0, 3);
-                for (int worker = 0; worker < coverage; worker++) {
-                    x.award(worker, 1);
-                }
-                force(x, "enterGuarantee", 1, guarantee);
-                Check.equal("coverage " + coverage + ", guarantee " + guarantee, coverage >= guarantee, x.isLegal());
+        for (int index = 0; index < 32; index++) {
+            int shift = index % 2;
+            int coverage = index / 2 % 4;
+            int guarantee = index / 8;
+            ShiftMarket x = withNeed(shift, 3);
+            for (int worker = 0; worker < coverage; worker++) {
+                x.award(worker, shift);
             }
+            force(x, "enterGuarantee", shift, guarantee);
+            Check.equal("shift " + shift + ", coverage " + coverage + ", guarantee " + guarantee,
+                    coverage >= guarantee, x.isLegal());
         }
     }
 

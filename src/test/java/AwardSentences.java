@@ -60,8 +60,8 @@ final class AwardSentences {
     }
 
     static void promise15ObstacleWithWhatTheWorkerHolds() {
-        Edges.says("Whether a worker can be given a shift is looked at with a set of shifts, those that the worker holds"
-                + " unless it is told otherwise.");
+        Edges.says("Whether a worker can be given a shift is looked at with a set of shifts, those that the worker"
+                + " holds unless it is told otherwise.");
         ShiftMarket x = Edges.workersAlone();
         x.addShift(3, 8, 8, 0, 2);
         x.addShift(3, 10, 8, 0, 2);

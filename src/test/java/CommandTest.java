@@ -70,16 +70,18 @@ public final class CommandTest {
     }
 
     public static void main(String[] args) throws Exception {
-        List<Project> projects = List.of(new Project("a project without a fault", "", RIGHT),
-                new Project("the first test wrong", "FirstTest", WRONG),
-                new Project("the second test throwing", "SecondTest", THROWS),
-                new Project("the first shared test wrong", "FourthRuns", WRONG),
-                new Project("the second shared test throwing", "ThirdRuns", THROWS),
-                new Project("the class not compiling", "ShiftMarket", WITHOUT_SENSE),
-                new Project("a test not compiling", "SecondTest", WITHOUT_SENSE),
-                new Project("a shared test not compiling", "ThirdRuns", WITHOUT_SENSE));
-        for (Project project : projects) {
-            project.look();
+        String[][] cases = {{"a project without a fault", "", RIGHT}, {"the first test wrong", "FirstTest", WRONG},
+            {"the second test throwing", "SecondTest", THROWS}, {"the first shared test wrong", "FourthRuns", WRONG},
+            {"the second shared test throwing", "ThirdRuns", THROWS},
+            {"the class not compiling", "ShiftMarket", WITHOUT_SENSE},
+            {"a test not compiling", "SecondTest", WITHOUT_SENSE},
+            {"a shared test not compiling", "ThirdRuns", WITHOUT_SENSE}};
+        // Two at a time: all at once would take much room, one after the other much time.
+        for (int index = 0; index < cases.length; index += 2) {
+            Project one = new Project(cases[index][0], cases[index][1], cases[index][2]);
+            Project other = new Project(cases[index + 1][0], cases[index + 1][1], cases[index + 1][2]);
+            one.look();
+            other.look();
         }
         Check.end("CommandTest");
     }

@@ -1,3 +1,5 @@
+import java.lang.reflect.Field;
+import java.lang.reflect.Modifier;
 import java.nio.file.Files;
 import java.nio.file.Path;
 import java.util.Arrays;
@@ -11,7 +13,8 @@ import java.util.regex.Pattern;
 
 /**
  * The source, whose path is the second argument, keeps to those rules of LANGUAGE.md that can be seen in its words:
- * names of the library, exceptions, static fields, and how long, wide and deep its methods are.
+ * names of the library, exceptions, static fields, divisors, casts, what is made and where, and how long, wide and
+ * deep its methods are.
  */
 public final class LanguageTest {
     private static final Set<String> LIBRARY = Set.of("Math.max", "Math.min", "Integer.bitCount", "System.arraycopy");
@@ -26,6 +29,7 @@ public final class LanguageTest {
     private static final int MOST_PARAMETERS = 7;
     private static final int MOST_CLASSES = 12;
     private static final int DEEPEST = 8;
+    private static final int MOST_FIELDS = 20;
 
     private static final Map<String, Set<String>> CALLED = new TreeMap<>();
 
@@ -34,6 +38,15 @@ public final class LanguageTest {
         words(source);
         statics(source);
         exceptions(source);
+        divisorsAndCasts(source.replaceAll("\"[^\"]*\"", "\"\""));
+        whatIsMade(source);
+        fields(ShiftMarket.class);
+        for (Class<?> type : ShiftMarket.class.getDeclaredClasses()) {
+            fields(type);
+            int modifiers = type.getModifiers();
+            Check.equal(type + " is static, and not of the face", true, Modifier.isStatic(modifiers)
+                    && !Modifier.isPublic(modifiers) && !Modifier.isProtected(modifiers));
+        }
         methods(source);
         for (String method : CALLED.keySet()) {
             int depth = depthOf(method, 1);
@@ -84,6 +97,41 @@ public final class LanguageTest {
             Matcher matcher = right.matcher(thrown.group(1));
             Check.equal("throw" + thrown.group(1), true, matcher.matches() && EXCEPTIONS.contains(matcher.group(1)));
         }
+    }
+
+    /** A divisor is a constant, or one of the two of doubles and floats, which are looked at before. */
+    private static void divisorsAndCasts(String code) {
+        Matcher divisor = Pattern.compile("[/%]=? *((?:\\(\\w+\\) )?[\\w.]*)").matcher(code);
+        while (divisor.find()) {
+            Check.equal("divided by " + divisor.group(1), true, divisor.group(1).matches("(\\w+\\.)?[A-Z_]+")
+                    || List.of("(double) workers", "(float) needs").contains(divisor.group(1)));
+        }
+        Matcher cast = Pattern.compile("\\((\\w+)\\) *[\\w(]").matcher(code);
+        while (cast.find()) {
+            boolean condition = code.substring(0, cast.start()).matches("(?s).*\\b(if|while|for|switch) ");
+            Check.equal("cast to " + cast.group(1), true, condition || List.of("double", "float").contains(
+                    cast.group(1)));
+        }
+    }
+
+    /** All but exceptions is made with the object itself, so that the calls of a run make nothing that is kept. */
+    private static void whatIsMade(String source) {
+        for (String line : source.split("\n")) {
+            Check.equal("made in " + line.trim(), true, !line.contains("new ") || line.contains("throw new ")
+                    || line.matches(" +(private )?final [\\w\\[\\]]+ \\w+ = new .*;"));
+        }
+        Check.equal("the constructor does nothing", true,
+                Pattern.compile("public ShiftMarket\\(\\) \\{\\s*\\}").matcher(source).find());
+    }
+
+    private static void fields(Class<?> type) {
+        int count = 0;
+        for (Field field : type.getDeclaredFields()) {
+            boolean isStatic = Modifier.isStatic(field.getModifiers());
+            count += isStatic ? 0 : 1;
+            Check.equal(field + " is a constant", true, !isStatic || Modifier.isFinal(field.getModifiers()));
+        }
+        Check.equal(type + " has few fields", true, count <= MOST_FIELDS);
     }
 
     private static void methods(String source) {
